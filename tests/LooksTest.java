@@ -11,6 +11,7 @@ public final class LooksTest {
         mostReviews();
         exchanges();
         neededPersons();
+        eachPersonIsNeeded();
         rounds();
         means();
         shares();
@@ -134,6 +135,12 @@ public final class LooksTest {
         CHECK.due("score(2, 1)", x.score(2, 1), 4);
         CHECK.due("score(3, 1)", x.score(3, 1), 5);
         CHECK.due("score(4, 1)", x.score(4, 1), -1);
+        CHECK.due("spread of none", scored().paperOf(0, 5), 0);
+        CHECK.due("spread of 0", scored(0).paperOf(0, 5), 0);
+        CHECK.due("spread of 9", scored(9).paperOf(0, 5), 0);
+        CHECK.due("spread of 0, 0", scored(0, 0).paperOf(0, 5), 0);
+        CHECK.due("spread of 9, 9", scored(9, 9).paperOf(0, 5), 0);
+        CHECK.due("spread of 4, 0, 9", scored(4, 0, 9).paperOf(0, 5), 9);
     }
 
     private static void counts() {
@@ -281,6 +288,19 @@ public final class LooksTest {
         CHECK.due("reviews that were taken stay", x.needed(), 5);
     }
 
+    /** Each person in turn is the one with the most papers that no other may review. */
+    private static void eachPersonIsNeeded() {
+        for (int person = 0; person < 8; person++) {
+            TokenReviews x = started();
+            x.set(1, 0);
+            x.paper(0, 255 ^ 1 << person);
+            CHECK.due("needed " + person, x.needed(), person);
+            CHECK.due("digest with needed " + person, x.digest(), digestOf(x, new int[] {0, 0}, ""));
+            x.topics(person, 0);
+            CHECK.due("no one is", x.needed(), 0);
+        }
+    }
+
     private static TokenReviews scored(int... scores) {
         TokenReviews x = started();
         x.paper(0, 128);
@@ -401,6 +421,8 @@ public final class LooksTest {
             TokenReviews z = scored(sum / 3, (sum + 1) / 3, (sum + 2) / 3);
             CHECK.due("a third", z.digest(), digestOf(z, new int[] {0, 0}, ""));
         }
+        TokenReviews far = scored(0, 9, 4);
+        CHECK.due("scores far apart", far.digest(), digestOf(far, new int[] {0, 0}, ""));
         TokenReviews z = scored(1);
         for (int times = 0; times < 10; times++) {
             z.bring(999);

@@ -9,6 +9,7 @@ public final class ReviewsTest {
         dropping();
         discussing();
         poorDiscussions();
+        eachPersonPays();
         rebutting();
         creditFromASmallPool();
         deciding();
@@ -141,6 +142,13 @@ public final class ReviewsTest {
         x.take(2, 0);
         x.write(2, 0, 3);
         CHECK.state("written", x, () -> x.drop(2, 0));
+        CHECK.due("saved", x.count(11), 6);
+        x.undo();
+        CHECK.due("drop", x.drop(1, 0), 8);
+        CHECK.due("drop saves a state", x.count(11), 6);
+        CHECK.due("undo", x.undo(), 5);
+        CHECK.due("taken again", x.score(1, 0), 10);
+        x.write(2, 0, 3);
         CHECK.due("drop", x.drop(1, 0), 8);
         CHECK.due("gone", x.score(1, 0), -1);
         CHECK.due("dropped", x.personOf(1, 7), 1);
@@ -209,6 +217,38 @@ public final class ReviewsTest {
         x.decide(0);
         CHECK.due("decided ahead of no token", x.discuss(0), 1);
         CHECK.due("decided, rebuttal", x.rebut(0), 1);
+    }
+
+    /** Of three persons one alone has no token: the first, the one between, the last. */
+    private static void eachPersonPays() {
+        int[] persons = {0, 3, 7};
+        for (int poor : persons) {
+            TokenReviews x = new TokenReviews();
+            x.set(2, 3);
+            x.week();
+            x.paper(0, 32);
+            x.paper(0, 32);
+            for (int person : persons) {
+                CHECK.due("take", x.take(person, 0), 0);
+                x.write(person, 0, person == poor ? 1 : 5);
+            }
+            x.set(2, 2);
+            x.bring(999);
+            x.week();
+            CHECK.due("take", x.take(poor, 1), 0);
+            CHECK.due("tokens", x.personOf(poor, 0), 1);
+            CHECK.due("paid by " + poor + " with the last token", x.discuss(0), 13);
+            CHECK.due("no token", x.personOf(poor, 0), 0);
+            for (int person : persons) {
+                CHECK.due("spent", x.personOf(person, 6), person == poor ? 5 : 3);
+            }
+            CHECK.due("spent", x.count(3), 11);
+            CHECK.due("no token of " + poor, x.discuss(0), 3);
+            CHECK.due("credit", x.rebut(0), 13);
+            CHECK.due("credit of " + poor, x.personOf(poor, 0), 1);
+            CHECK.due("the least score rises", x.score(poor, 0), 3);
+            CHECK.due("paid from credit", x.discuss(0), 12);
+        }
     }
 
     private static void rebutting() {

@@ -10,6 +10,8 @@ public final class TextsTest {
         stoppedRuns();
         keeping();
         undoing();
+        allComesBack();
+        doneWithoutAChange();
         CHECK.end();
     }
 
@@ -259,5 +261,75 @@ public final class TextsTest {
         }
         CHECK.due("undo", y.undo(), 0);
         CHECK.due("weeks", y.count(1), 2);
+    }
+
+    /** Everything is another one in the slot than now, then goBack() and undo() bring all of it. */
+    private static void allComesBack() {
+        TokenReviews x = new TokenReviews();
+        x.keep(0);
+        x.week();
+        x.paper(1, 1);
+        x.take(1, 0);
+        x.write(1, 0, 3);
+        x.take(2, 0);
+        x.drop(2, 0);
+        x.rebut(0);
+        x.set(0, 1);
+        x.decide(0);
+        x.discuss(0);
+        x.keep(1);
+        long first = x.digest();
+        x.goBack(0);
+        x.bring(3);
+        x.set(2, 2);
+        x.week();
+        x.week();
+        x.paper(3, 192);
+        x.paper(2, 5);
+        x.topics(6, 4);
+        x.meet(6, 1);
+        x.meet(5, 4);
+        x.take(4, 1);
+        x.write(4, 1, 9);
+        x.take(0, 0);
+        x.write(0, 0, 1);
+        x.take(3, 0);
+        x.write(3, 0, 8);
+        x.discuss(0);
+        long second = x.digest();
+        CHECK.due("goBack(1)", x.goBack(1), 1);
+        CHECK.due("all of the snapshot", x.digest(), first);
+        CHECK.due("topic", x.paperOf(0, 0), 1);
+        CHECK.due("authors", x.paperOf(0, 1), 1);
+        CHECK.due("discussions", x.paperOf(0, 6), 0);
+        CHECK.due("rebuttal", x.paperOf(0, 7), 1);
+        CHECK.due("verdict", x.paperOf(0, 8), 1);
+        CHECK.due("got", x.personOf(1, 5), 5);
+        CHECK.due("got", x.personOf(7, 5), 4);
+        CHECK.due("dropped", x.personOf(2, 7), 1);
+        CHECK.due("undo", x.undo(), 5);
+        // a sixth saved state, as the digest tells their number, too
+        x.keep(0);
+        CHECK.due("goBack(0)", x.goBack(0), 2);
+        CHECK.due("saved", x.count(11), 6);
+        CHECK.due("all of the saved state", x.digest(), second);
+    }
+
+    /** A discussion or a rebuttal that answers just 10 is done. */
+    private static void doneWithoutAChange() {
+        TokenReviews x = new TokenReviews();
+        x.set(2, 6);
+        x.week();
+        x.week();
+        CHECK.due("pool", x.count(2), 4);
+        x.set(2, 4);
+        x.week();
+        CHECK.due("pool", x.count(2), 0);
+        x.paper(0, 128);
+        Check.type(x, "t00;t10;s00=5;s10=5;d0;r0;d0;d0");
+        CHECK.due("all are done", x.run(), 8);
+        CHECK.due("discussions", x.paperOf(0, 6), 3);
+        CHECK.due("no credit", x.personOf(0, 5), 16);
+        CHECK.due("score of 0", x.score(0, 0), 5);
     }
 }
