@@ -5,7 +5,7 @@ public final class MatchingTest {
     private static final Check CHECK = new Check("MatchingTest");
 
     public static void main(String[] args) {
-        int worlds = args.length > 0 ? Integer.parseInt(args[0]) : 1500;
+        int worlds = args.length > 0 ? Integer.parseInt(args[0]) : 15000;
         for (int seed = 0; seed < worlds; seed++) {
             compare(new Random(seed), "world " + seed);
         }
